@@ -411,7 +411,9 @@ public final class FrameReader {
                 join.keepNumbers(j, marks.numbersOn(j, rules[c]));
             }
             addFits(c, seen);
-            join.settle();
+            join.fill();
+            join.chooseHoles();
+            join.findForced();
             groups[c].gather(join, timbers);
         }
     }
@@ -621,11 +623,11 @@ public final class FrameReader {
         static final int TOO_MUCH = 2;
         static final int TOO_LONG = 3;
 
-        private Tape tape;
-        private int start;
-        private int next;
-        private int token;
-        private int value;
+        private final int[] tokens = new int[Tape.ROOM + 1];
+        private final int[] values = new int[Tape.ROOM + 1];
+        private final int[] places = new int[Tape.ROOM + 1];
+        private int count = 0;
+        private int at = 0;
         private int fault = 0;
         private int place = NONE;
 
@@ -638,15 +640,14 @@ public final class FrameReader {
         }
 
         /** How many lines; NONE with a FAULT. */
-        int parse(Tape from, Custom draft) {
-            tape = from;
-            next = 0;
+        int parse(Tape tape, Custom draft) {
+            split(tape);
+            at = 0;
             fault = 0;
             place = NONE;
             draft.reset();
-            advance();
             int lines = 0;
-            while (token != END && fault == 0 && lines <= MOST_LINES) {
+            while (token() != END && fault == 0 && lines <= MOST_LINES) {
                 readLine(draft, lines);
                 lines++;
             }
@@ -654,6 +655,7 @@ public final class FrameReader {
         }
 
         private void readLine(Custom draft, int linesAhead) {
+            int first = value();
             if (!beginsLine()) {
                 fail(FOUL);
                 return;
@@ -662,18 +664,22 @@ public final class FrameReader {
                 fail(TOO_LONG);
                 return;
             }
-            int first = value;
-            advance();
+            at++;
             if (first >= POST) {
                 readKinds(draft, first - POST);
             } else {
                 readRule(draft, first);
             }
-            expect(STOP);
+            if (token() != STOP) {
+                fail(FOUL);
+            }
+            at++;
         }
 
         private boolean beginsLine() {
-            return token == WORD && (value == FOUR || value == TURN || value == SLACK || value >= HOLD && value != TO);
+            int word = value();
+            return token() == WORD
+                && (word == FOUR || word == TURN || word == SLACK || word >= HOLD && word != TO);
         }
 
         private void readRule(Custom draft, int first) {
@@ -720,18 +726,18 @@ public final class FrameReader {
         }
 
         private int readWord(int least, int most) {
-            int word = value;
-            if (token != WORD || word < least || word > most) {
+            int word = value();
+            if (token() != WORD || word < least || word > most) {
                 fail(FOUL);
                 return least;
             }
-            advance();
+            at++;
             return word;
         }
 
         private int readNumber(int least, int most) {
-            int number = value;
-            if (token != NUMBER) {
+            int number = value();
+            if (token() != NUMBER) {
                 fail(FOUL);
                 return least;
             }
@@ -739,89 +745,103 @@ public final class FrameReader {
                 fail(TOO_MUCH);
                 return least;
             }
-            advance();
+            at++;
             return number;
         }
 
-        private void expect(int wanted) {
-            if (token != wanted) {
-                fail(FOUL);
-                return;
-            }
-            advance();
+        private int token() {
+            return at < count ? pick(tokens, at) : END;
         }
 
-        /** Only the first one counts: what comes behind it was read on its guess. */
+        private int value() {
+            return pick(values, at);
+        }
+
+        /** Only the first one counts: what comes behind it was read on a guess. */
         private void fail(int kind) {
             if (fault == 0) {
                 fault = kind;
-                place = start;
+                place = pick(places, at);
             }
         }
 
-        private void advance() {
-            if (fault != 0) {
-                return;
+        private void split(Tape tape) {
+            count = 0;
+            int start = 0;
+            while (start < tape.size()) {
+                int next = start + 1;
+                int b = tape.byteAt(start);
+                if (isLetter(b)) {
+                    next = endOfLetters(tape, start);
+                    int word = wordNumber(tape, start, next);
+                    keep(word == NONE ? WRONG : WORD, word, start);
+                } else if (isDigit(b)) {
+                    next = endOfDigits(tape, start);
+                    keep(next - start > 2 ? WRONG : NUMBER, numberAt(tape, start, next), start);
+                } else if (!isBlank(b)) {
+                    keep(b == ';' ? STOP : WRONG, NONE, start);
+                }
+                start = next;
             }
-            start = next;
-            while (start < Tape.ROOM && isBlank(tape.byteAt(start))) {
-                start++;
-            }
-            int b = tape.byteAt(start);
-            next = start + 1;
-            if (b == NONE) {
-                token = END;
-            } else if (b == ';') {
-                token = STOP;
-            } else if (isLetter(b)) {
-                readLetters();
-            } else if (isDigit(b)) {
-                readDigits();
-            } else {
-                token = WRONG;
+            keep(END, NONE, tape.size());
+        }
+
+        private void keep(int token, int value, int start) {
+            if (count < tokens.length) {
+                tokens[count] = token;
+                values[count] = value;
+                places[count] = start;
+                count++;
             }
         }
 
-        private void readLetters() {
-            while (next < Tape.ROOM && isLetter(tape.byteAt(next))) {
+        private static int endOfLetters(Tape tape, int start) {
+            int next = start;
+            while (next < tape.size() && isLetter(tape.byteAt(next))) {
                 next++;
             }
-            value = wordNumber();
-            token = value == NONE ? WRONG : WORD;
+            return next;
         }
 
-        private int wordNumber() {
+        private static int endOfDigits(Tape tape, int start) {
+            int next = start;
+            while (next < tape.size() && isDigit(tape.byteAt(next))) {
+                next++;
+            }
+            return next;
+        }
+
+        /** Of more than two digits it doesn't matter: they are no NUMBER. */
+        private static int numberAt(Tape tape, int start, int next) {
+            int number = 0;
+            for (int i = start; i < next && i < start + 2; i++) {
+                number = 10 * number + tape.byteAt(i) - '0';
+            }
+            return number;
+        }
+
+        private static int wordNumber(Tape tape, int start, int next) {
             if (next - start > WORD_WIDTH) {
                 return NONE;
             }
             for (int w = 0; w < WORD_COUNT; w++) {
-                if (isWord(w)) {
+                if (isWord(w, tape, start, next)) {
                     return w;
                 }
             }
             return NONE;
         }
 
-        private boolean isWord(int w) {
+        private static boolean isWord(int w, Tape tape, int start, int next) {
             for (int i = 0; i < WORD_WIDTH; i++) {
-                int wanted = w * WORD_WIDTH + i < WORDS.length() ? WORDS.charAt(w * WORD_WIDTH + i) : ' ';
+                int at = w * WORD_WIDTH + i;
+                int wanted = at < WORDS.length() ? WORDS.charAt(at) : ' ';
                 int got = start + i < next ? tape.byteAt(start + i) : ' ';
                 if (wanted != got) {
                     return false;
                 }
             }
             return true;
-        }
-
-        private void readDigits() {
-            value = tape.byteAt(start) - '0';
-            while (next < Tape.ROOM && isDigit(tape.byteAt(next))) {
-                if (next == start + 1) {
-                    value = 10 * value + tape.byteAt(next) - '0';
-                }
-                next++;
-            }
-            token = next - start > 2 ? WRONG : NUMBER;
         }
 
         private static boolean isBlank(int b) {
@@ -1131,19 +1151,40 @@ public final class FrameReader {
             holes |= 1L << h;
         }
 
-        void settle() {
-            fill();
+        /** The most pairs with the least sum, one pair more each time. */
+        void fill() {
+            for (int i = 0; i < JOINTS; i++) {
+                measureTo(SINK);
+                if (distance[SOURCE] == FAR) {
+                    return;
+                }
+                turnOver(SOURCE, SINK);
+            }
+        }
+
+        /** Each TENON in its turn takes the least HOLE it can; it and its HOLE are closed then and stay as they are. */
+        void chooseHoles() {
             for (int t = 0; t < JOINTS; t++) {
                 if (has(tenons, t)) {
+                    measureTo(t);
                     chooseFirstHole(t);
                 }
             }
             closed = 0;
+        }
+
+        /** A pair is in all joins as good, unless a round of no cost does without it. */
+        void findForced() {
             for (int i = 0; i < arcs; i++) {
-                if (partner[arcTenon[i]] == arcHole[i]) {
+                int t = arcTenon[i];
+                int h = arcHole[i];
+                if (partner[t] == h) {
                     pairs++;
                     more += arcMore[i];
-                    findForced(i);
+                    measureTo(h);
+                    if (distance[t] != arcMore[i]) {
+                        forcedSet |= 1L << t | 1L << h;
+                    }
                 }
             }
         }
@@ -1168,19 +1209,7 @@ public final class FrameReader {
             return has(forcedSet, j);
         }
 
-        private void fill() {
-            for (int i = 0; i < JOINTS; i++) {
-                measureTo(SINK);
-                if (distance[SOURCE] == FAR) {
-                    return;
-                }
-                turnOver(SOURCE, SINK);
-            }
-        }
-
-        /** Those chosen ahead of t, and their HOLES, are closed and stay as they are. */
         private void chooseFirstHole(int t) {
-            measureTo(t);
             for (int i = 0; i < arcs; i++) {
                 int h = arcHole[i];
                 if (arcTenon[i] != t || has(closed, h)) {
@@ -1198,16 +1227,6 @@ public final class FrameReader {
             closed |= 1L << t;
             if (partner[t] != NONE) {
                 closed |= 1L << partner[t];
-            }
-        }
-
-        /** The pair is in all joins as good, unless a round of no cost does without it. */
-        private void findForced(int arc) {
-            int t = arcTenon[arc];
-            int h = arcHole[arc];
-            measureTo(h);
-            if (distance[t] != arcMore[arc]) {
-                forcedSet |= 1L << t | 1L << h;
             }
         }
 
