@@ -11,6 +11,7 @@ public final class FrameReader {
     private static final int HOLE = 1;
     private static final int LAST_DAY = 9999;
     private static final int LAST_YEAR = 999;
+    private static final int LAST_FALL = 9999;
     private static final int NO_LEAN = NONE - 999;
     private static final int OUT_ROOM = 200;
 
@@ -71,9 +72,7 @@ public final class FrameReader {
     }
 
     public int timber(int kind, int length) {
-        int t = timbers.addTimber(kind, length, now);
-        stale = true;
-        return t;
+        return timbers.addTimber(kind, length, now);
     }
 
     public int joint(int t, int place, int sort, int size) {
@@ -593,10 +592,12 @@ public final class FrameReader {
     /** Reads the text of a CUSTOM, token by token, up to its first FAULT. */
     private static final class CustomText {
         static final int MOST_LINES = 40;
+        /** No line that stands has more than five, and what comes behind the first one of the 41st is not read. */
+        static final int MOST_TOKENS = 5 * MOST_LINES + 1;
         static final int WORD_WIDTH = 6;
         static final int WORD_COUNT = 18;
         static final String WORDS =
-            "four  add   less  both  turn  slack into  ahead hold  level marginsap   to    stock post  beam  rafterbrace ";
+            "four  add   less  both  turn  slack into  ahead hold  level marginsap   to    stock post  beam  rafterbrace";
 
         static final int FOUR = 0;
         static final int ADD = 1;
@@ -623,9 +624,9 @@ public final class FrameReader {
         static final int TOO_MUCH = 2;
         static final int TOO_LONG = 3;
 
-        private final int[] tokens = new int[Tape.ROOM + 1];
-        private final int[] values = new int[Tape.ROOM + 1];
-        private final int[] places = new int[Tape.ROOM + 1];
+        private final int[] tokens = new int[MOST_TOKENS];
+        private final int[] values = new int[MOST_TOKENS];
+        private final int[] places = new int[MOST_TOKENS];
         private int count = 0;
         private int at = 0;
         private int fault = 0;
@@ -787,7 +788,7 @@ public final class FrameReader {
         }
 
         private void keep(int token, int value, int start) {
-            if (count < tokens.length) {
+            if (count < MOST_TOKENS) {
                 tokens[count] = token;
                 values[count] = value;
                 places[count] = start;
@@ -1035,6 +1036,7 @@ public final class FrameReader {
 
         /** READS of JOINT j as a set. */
         long numbersOn(int j, Custom custom) {
+            int mark = pick(shown, j);
             if (signsOn(j) == 0) {
                 return ALL_NUMBERS;
             }
@@ -1043,7 +1045,7 @@ public final class FrameReader {
                 for (int row = 0; row < UNIT_ROWS; row++) {
                     int number = 10 * tens + unitOf(row);
                     if (number > 0 && isUsed(row, custom)
-                            && (spells(j, tens, row, false) || custom.turn && spells(j, tens, row, true))) {
+                            && (spells(mark, tens, row, false) || custom.turn && spells(mark, tens, row, true))) {
                         set |= 1L << number;
                     }
                 }
@@ -1065,14 +1067,14 @@ public final class FrameReader {
             return row != 4 && row != 9 || custom.four != Custom.LESS;
         }
 
-        private boolean spells(int j, int tens, int row, boolean fromBehind) {
-            int n = signsOn(j);
+        private boolean spells(int mark, int tens, int row, boolean fromBehind) {
+            int n = pick(length, mark);
             if (n < tens || unitSign(row, n - tens) != ' ') {
                 return false;
             }
             for (int i = 0; i < n; i++) {
                 int wanted = i < tens ? 'X' : unitSign(row, i - tens);
-                int sign = signAt(j, fromBehind ? n - 1 - i : i);
+                int sign = pick(signs, mark * MOST_SIGNS + (fromBehind ? n - 1 - i : i));
                 if (wanted == ' ' || sign != wanted && sign != '?') {
                     return false;
                 }
@@ -1162,7 +1164,10 @@ public final class FrameReader {
             }
         }
 
-        /** Each TENON in its turn takes the least HOLE it can; it and its HOLE are closed then and stay as they are. */
+        /**
+         * Each TENON in its turn takes the least HOLE it can, and is closed then: no way leads by it, so none leads
+         * on from its HOLE, and the pair stays.
+         */
         void chooseHoles() {
             for (int t = 0; t < JOINTS; t++) {
                 if (has(tenons, t)) {
@@ -1212,7 +1217,7 @@ public final class FrameReader {
         private void chooseFirstHole(int t) {
             for (int i = 0; i < arcs; i++) {
                 int h = arcHole[i];
-                if (arcTenon[i] != t || has(closed, h)) {
+                if (arcTenon[i] != t) {
                     continue;
                 }
                 if (partner[t] == h) {
@@ -1225,9 +1230,6 @@ public final class FrameReader {
                 }
             }
             closed |= 1L << t;
-            if (partner[t] != NONE) {
-                closed |= 1L << partner[t];
-            }
         }
 
         /** The least cost of a way from each node to the target. */
@@ -1247,7 +1249,7 @@ public final class FrameReader {
             for (int i = 0; i < arcs; i++) {
                 int t = arcTenon[i];
                 int h = arcHole[i];
-                if (has(closed, t) || has(closed, h)) {
+                if (has(closed, t)) {
                     continue;
                 }
                 if (partner[t] == h) {
@@ -1884,7 +1886,7 @@ public final class FrameReader {
             }
             int room = above > 0 ? bound - far[last] : bound + far[last];
             int falling = year[last] + room * below / Math.abs(above) + 1;
-            return falling <= LAST_DAY ? falling : NONE;
+            return falling <= LAST_FALL ? falling : NONE;
         }
     }
 }

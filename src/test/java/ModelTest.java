@@ -187,6 +187,12 @@ public final class ModelTest {
         }
         due("custom " + text, Feeder.custom(x, c, text.toString()), lines);
         model.rules[c] = rule;
+        for (int k = 0; k < 4; k++) {
+            for (int m = 0; m < 4; m++) {
+                due("customs into", x.customs(c, 10 + 4 * k + m), rule.into[k][m] ? 1 : 0);
+                due("customs ahead", x.customs(c, 30 + 4 * k + m), rule.isAhead(k, m) ? 1 : 0);
+            }
+        }
         told.append(" custom ").append(c).append(" {").append(text).append('}');
     }
 

@@ -3,6 +3,7 @@ public final class ReadingTest {
     private static final int NONE = FrameReader.NONE;
     private static final int BIG = Integer.MAX_VALUE;
     private static final int SMALL = Integer.MIN_VALUE;
+    private static final int[] WIDTHS = {1, 5, 3, 3, 7, 2, 6, 6, 6, 1};
     private static final Due DUE = new Due("ReadingTest");
 
     private ReadingTest() {
@@ -156,6 +157,7 @@ public final class ReadingTest {
         x.days(1);
         x.timber(1, 9);
         x.joint(3, 0, 1, 3);
+        x.timber(1, 9);
         DUE.is("both now", x.join(0, 0), 2);
         x.view(0);
         DUE.is("one then", x.join(0, 0), 1);
@@ -380,19 +382,24 @@ public final class ReadingTest {
         DUE.is(name + " -1", x.built(0, 0, -1), NONE);
     }
 
+    /** A bent with THE MASTER for the years from 100 on. */
+    private static FrameReader ringed() {
+        FrameReader x = bent("sap 2 to 6;stock 3;");
+        for (int i = 0; i < WIDTHS.length; i++) {
+            x.master(100 + i, WIDTHS[i]);
+        }
+        return x;
+    }
+
+    /** TIMBER t's rings are n of the MASTER's. */
     private static void rings(FrameReader x, int t, int from, int n) {
-        int[] master = {1, 5, 3, 3, 7, 2, 6, 6, 6, 1};
         for (int i = 0; i < n; i++) {
-            x.ring(t, master[from + i]);
+            x.ring(t, WIDTHS[from + i]);
         }
     }
 
     private static void buildings() {
-        FrameReader x = bent("sap 2 to 6;stock 3;");
-        int[] master = {1, 5, 3, 3, 7, 2, 6, 6, 6, 1};
-        for (int i = 0; i < 10; i++) {
-            x.master(100 + i, master[i]);
-        }
+        FrameReader x = ringed();
         dueBuilt("none sure", x, NONE, NONE, 0, 0);
         rings(x, 0, 0, 5);
         x.sap(0, 0, true);
@@ -415,10 +422,7 @@ public final class ReadingTest {
         rings(x, 4, 0, 2);
         DUE.is("not sure: a rival", x.date(0, 4, 2), 0);
         dueBuilt("it does not count", x, 111, 999, 0, 4);
-        x = bent("sap 2 to 6;stock 3;");
-        for (int i = 0; i < 10; i++) {
-            x.master(100 + i, master[i]);
-        }
+        x = ringed();
         rings(x, 0, 0, 5);
         x.sap(0, 0, true);
         rings(x, 1, 0, 9);
@@ -511,6 +515,10 @@ public final class ReadingTest {
         DUE.is("now", x.falls(0, 3), 9);
         x = leaning(0, 0, 900, 90);
         DUE.is("in 9991", x.falls(0, 999), 9991);
+        x = leaning(8, 0, 18, 1);
+        DUE.is("in 9999", x.falls(0, 999), 9999);
+        x = leaning(9, 0, 19, 1);
+        DUE.is("in 10000", x.falls(0, 999), NONE);
         x = leaning(0, 1, 999, 98);
         DUE.is("past 9999", x.falls(0, 999), NONE);
         x = new FrameReader();

@@ -308,7 +308,8 @@ public final class TellingTest {
             {"sap 5 4;", 1, 6}, {"sap 5 to;", 1, 8}, {"sap to 4;", 1, 4}, {"sap 5 to 100;", 1, 9},
             {"turn;hold 6;slack 4;", 2, 10}, {"turn;\u00e9", 1, 5}, {"turn;\r", 1, 5}, {"turn", 1, 4},
             {"four both; turnturn ;", 1, 11}, {"brace into rafter", 1, 17}, {"slack x;", 1, 6}, {"slack 1a;", 1, 7},
-            {"hold 000;", 1, 5}, {"fourfour add;", 1, 0}, {"rafterx into post;", 1, 0}, {"\0", 1, 0},
+            {"hold 000;", 1, 5}, {"fourfour add;", 1, 0}, {"turnz;", 1, 0}, {"turnA;", 1, 0},
+            {"turnZ;", 1, 0}, {"turn@;", 1, 4}, {"rafterx into post;", 1, 0}, {"\0", 1, 0},
         };
         FrameReader x = new FrameReader();
         Feeder.custom(x, 0, "stock 42;");
@@ -348,6 +349,14 @@ public final class TellingTest {
         DUE.is("its place", x.fault(1), 799);
         DUE.is("all of the tape", Feeder.custom(x, 0, " ".repeat(796) + "turn"), NONE);
         DUE.is("the text's length", x.fault(1), 800);
+        String saps = "sap 1 to 2 ;".repeat(40);
+        DUE.is("40 long lines", Feeder.custom(x, 0, saps), 40);
+        DUE.is("41 long lines", Feeder.custom(x, 0, saps + saps.substring(0, 12)), NONE);
+        DUE.is("fault 3", x.fault(0), 3);
+        DUE.is("its place", x.fault(1), 480);
+        DUE.is("41 long lines", Feeder.custom(x, 0, saps + "12;" + saps.substring(0, 300)), NONE);
+        DUE.is("fault 1", x.fault(0), 1);
+        DUE.is("its place", x.fault(1), 480);
         DUE.is("a first wrong one", Feeder.custom(x, 0, "slack 7;" + forty), NONE);
         DUE.is("fault 2", x.fault(0), 2);
     }
