@@ -768,9 +768,9 @@ public final class FrameReader {
 
         private void split(Tape tape) {
             count = 0;
-            int start = 0;
-            while (start < tape.size()) {
-                int next = start + 1;
+            int next;
+            for (int start = 0; start < tape.size(); start = next) {
+                next = start + 1;
                 int b = tape.byteAt(start);
                 if (isLetter(b)) {
                     next = endOfLetters(tape, start);
@@ -782,7 +782,6 @@ public final class FrameReader {
                 } else if (!isBlank(b)) {
                     keep(b == ';' ? STOP : WRONG, NONE, start);
                 }
-                start = next;
             }
             keep(END, NONE, tape.size());
         }
@@ -797,7 +796,7 @@ public final class FrameReader {
         }
 
         private static int endOfLetters(Tape tape, int start) {
-            int next = start;
+            int next = start + 1;
             while (next < tape.size() && isLetter(tape.byteAt(next))) {
                 next++;
             }
@@ -805,7 +804,7 @@ public final class FrameReader {
         }
 
         private static int endOfDigits(Tape tape, int start) {
-            int next = start;
+            int next = start + 1;
             while (next < tape.size() && isDigit(tape.byteAt(next))) {
                 next++;
             }
