@@ -24,8 +24,10 @@ final class Feeder {
 
     static String outText(FrameReader x) {
         StringBuilder text = new StringBuilder();
-        for (int i = 0; x.out(i) != FrameReader.NONE; i++) {
-            text.append((char) x.out(i));
+        int next = x.out(0);
+        while (next != FrameReader.NONE) {
+            text.append((char) next);
+            next = x.out(text.length());
         }
         return text.toString();
     }

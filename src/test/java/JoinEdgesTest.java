@@ -1,3 +1,5 @@
+import java.util.Arrays;
+
 /**
  * The sentences of promises 11 to 23, 32 and 33 that name a boundary, each with a test of its own: on the boundary,
  * one below and one above. The number ahead of each call is the promise's.
@@ -16,6 +18,7 @@ public final class JoinEdgesTest {
     public static void main(String[] args) {
         looks();
         reusedAndIdle();
+        idleOfEachSort();
         customsOfNoKind();
         ofTimbers();
         atJoints();
@@ -32,6 +35,7 @@ public final class JoinEdgesTest {
         bestOfSeveral();
         matesOfNone();
         forcedOrNot();
+        askedAgain();
         olderJoin();
         framesOfTwo();
         framesOfNone();
@@ -41,6 +45,8 @@ public final class JoinEdgesTest {
         leastMost();
         ordersByKinds();
         raisedSteps();
+        framesApart();
+        olderFrame();
         cannotBeRaised();
         writtenNumbers();
         outOfBytes();
@@ -128,6 +134,22 @@ public final class JoinEdgesTest {
         y.joint(2, 1, 0, 9);
         y.joint(0, 1, 1, 9);
         DUE.is("11: beam 2 too", y.look(4), 2);
+    }
+
+    /** 11: "5 idle HOLES (in no JOIN), 6 idle TENONS", as many of the one and of the other. */
+    private static void idleOfEachSort() {
+        for (int tenons = 0; tenons <= 3; tenons++) {
+            for (int holes = 0; holes <= 3; holes++) {
+                int[] threes = {3, 3, 3};
+                FrameReader x = posts(Arrays.copyOf(threes, tenons), Arrays.copyOf(threes, holes), "");
+                String call = tenons + " tenons, " + holes + " holes";
+                DUE.is("11: all idle, " + call, x.look(5), holes);
+                DUE.is("11: all idle, " + call, x.look(6), tenons);
+                Feeder.custom(x, 1, "post into beam;");
+                DUE.is("11: idle, " + call, x.look(5), Math.max(0, holes - tenons));
+                DUE.is("11: idle, " + call, x.look(6), Math.max(0, tenons - holes));
+            }
+        }
     }
 
     /** 12: "NONE if there is none such." */
@@ -482,6 +504,14 @@ public final class JoinEdgesTest {
         x.view(0);
         DUE.is("18: not seen", x.mate(0, 3), NONE);
         DUE.is("19: not seen", x.forced(0, 3), NONE);
+        DUE.is("18: no mate seen", x.mate(0, 1), NONE);
+        DUE.is("17: one pair seen", x.join(0, 0), 1);
+        x.joint(0, 5, 0, 4);
+        x.joint(2, 5, 1, 4);
+        DUE.is("17: one pair still", x.join(0, 0), 1);
+        DUE.is("11: no idle hole seen", x.look(5), 0);
+        DUE.is("11: one idle tenon seen", x.look(6), 1);
+        DUE.is("17: all", x.view(1) ? x.join(0, 0) : NONE, 3);
     }
 
     /** 19, Terms: "A pair is FORCED, if it is in all JOINS of as many pairs with as little a sum." */
@@ -500,6 +530,31 @@ public final class JoinEdgesTest {
         Feeder.mark(x, 3, "V");
         DUE.is("19: both, in one way", x.join(0, 2), 2);
         DUE.is("19: as many", x.join(0, 0), 2);
+    }
+
+    /** 17 to 19: the same again after something else was asked, and anew after something was told. */
+    private static void askedAgain() {
+        FrameReader x = posts(new int[] {3}, new int[] {4}, "post into beam;");
+        for (int i = 0; i < 3; i++) {
+            DUE.is("17: pairs", x.join(0, 0), 1);
+            DUE.is("17: the sum", x.join(0, 1), 1);
+            DUE.is("19: forced", x.forced(0, 0), 1);
+            x.view(i % 2 - 1);
+        }
+        x.joint(1, 5, 1, 4);
+        DUE.is("19: another hole will do", x.forced(0, 0), 0);
+        DUE.is("17: none forced", x.join(0, 2), 0);
+        DUE.is("17: the sum", x.join(0, 1), 1);
+        x.joint(1, 6, 1, 3);
+        DUE.is("18: a better one", x.mate(0, 0), 3);
+        DUE.is("18: idle again", x.mate(0, 1), NONE);
+        DUE.is("19: forced again", x.forced(0, 3), 1);
+        DUE.is("17: the sum", x.join(0, 1), 0);
+        x.custom(0);
+        DUE.is("17: no pair", x.join(0, 0), 0);
+        DUE.is("17: no sum", x.join(0, 1), 0);
+        DUE.is("17: none forced", x.join(0, 2), 0);
+        DUE.is("18: idle", x.mate(0, 0), NONE);
     }
 
     /** 17 to 19, Terms: "By CUSTOM 1 likewise, but only with JOINTS that are in no pair .. by CUSTOM 0". */
@@ -591,6 +646,8 @@ public final class JoinEdgesTest {
         DUE.is("20: timber 2", x.frameOf(0, 2), 0);
         x.view(0);
         DUE.is("20: timber 2 on 0", x.frameOf(0, 2), NONE);
+        DUE.is("21: the others on 0", x.frame(0, 0, 0), 3);
+        DUE.is("32: the one pair on 0", x.write(0), 5);
     }
 
     /** 17, 20, 21: from one FRAME to 8 of two TIMBERS each, "numbered by their least TIMBERS". */
@@ -745,6 +802,81 @@ public final class JoinEdgesTest {
         DUE.is("23: frame 1", y.raised(0, 1, 0), 1);
         DUE.is("23: frame 1", y.raised(0, 1, 1), 3);
         DUE.is("23: behind frame 0", y.raised(0, 0, 16), NONE);
+    }
+
+    /** POSTS that are MATES two by two, each two by a TENON and a HOLE of a SIZE of their own. */
+    private static FrameReader linked(int timbers, int[][] mates, String custom) {
+        FrameReader x = new FrameReader();
+        for (int t = 0; t < timbers; t++) {
+            x.timber(0, 9);
+        }
+        for (int i = 0; i < mates.length; i++) {
+            x.joint(mates[i][0], 0, 0, 1 + i);
+            x.joint(mates[i][1], 0, 1, 1 + i);
+        }
+        Feeder.custom(x, 0, "post into post;slack 0;" + custom);
+        return x;
+    }
+
+    private static void dueSteps(String call, FrameReader x, int c, int f, int... want) {
+        for (int i = 0; i <= want.length; i++) {
+            DUE.is(call + " step " + i, x.raised(c, f, i), i < want.length ? want[i] : NONE);
+        }
+    }
+
+    /** 21 to 23: what is told of one FRAME has nothing of another, larger one. */
+    private static void framesApart() {
+        FrameReader x = linked(6, new int[][] {{0, 1}, {1, 2}, {2, 0}, {3, 4}, {4, 5}}, "hold 2;");
+        for (int i = 0; i < 2; i++) {
+            DUE.is("21: a ring of three", x.frame(0, 0, 2), 2);
+            DUE.is("21: a row of three", x.frame(0, 1, 2), 1);
+            dueSteps("23: ring", x, 0, 0, 0, 1, 2);
+            dueSteps("23: row", x, 0, 1, 3, 4, 5);
+            x.view(-1);
+        }
+        FrameReader y = linked(4, new int[][] {{0, 2}, {2, 1}, {1, 3}}, "hold 1;");
+        DUE.is("21: a row", y.frame(0, 0, 2), 1);
+        dueSteps("23: not 1 behind 0", y, 0, 0, 0, 2, 1, 3);
+        FrameReader z = linked(3, new int[][] {{0, 1}, {1, 2}}, "hold 2;");
+        z.days(1);
+        z.timber(0, 9);
+        z.joint(2, 0, 0, 9);
+        z.joint(3, 0, 1, 9);
+        DUE.is("21: four", z.frame(0, 0, 2), 1);
+        Feeder.custom(z, 0, "post into post;slack 0;hold 0;");
+        z.view(0);
+        DUE.is("21: three", z.frame(0, 0, 2), 0);
+        DUE.is("22: three", z.orders(0, 0), 6);
+        dueSteps("23: three", z, 0, 0, 0, 1, 2);
+    }
+
+    /** 20 to 23: of a FRAME by CUSTOM 1 what CUSTOM 1 says. */
+    private static void olderFrame() {
+        FrameReader x = new FrameReader();
+        for (int t = 0; t < 3; t++) {
+            x.timber(t % 2, 9);
+        }
+        int[][] joints = {{0, 0, 1}, {1, 1, 1}, {1, 0, 5}, {0, 1, 5}, {1, 0, 7}, {2, 1, 7}};
+        for (int[] j : joints) {
+            x.joint(j[0], 0, j[1], j[2]);
+        }
+        Feeder.custom(x, 0, "post into beam;beam ahead post;hold 0;");
+        Feeder.custom(x, 1, "beam into post;post ahead beam;hold 1;");
+        int[][] want = {{3, 1, 0, 1}, {7, 2, 2, 1}};
+        for (int c = 0; c < 2; c++) {
+            for (int what = 0; what < 4; what++) {
+                DUE.is("21: custom " + c + " what " + what, x.frame(c, 0, what), want[c][what]);
+            }
+            DUE.is("22: custom " + c, x.orders(c, 0), c + 1);
+            DUE.is("20: beam by " + c, x.frameOf(c, 1), 0);
+        }
+        dueSteps("23: custom 0", x, 0, 0, 1, 0);
+        dueSteps("23: custom 1", x, 1, 0, 0, 2, 1);
+        DUE.is("20: not by 0", x.frameOf(0, 2), NONE);
+        DUE.is("20: by 1", x.frameOf(1, 2), 0);
+        DUE.is("11: reused", x.look(4), 2);
+        DUE.is("32: by 1", x.write(1), 10);
+        DUE.is("33: by 1", Feeder.outText(x), "2-3!;4-5!;");
     }
 
     /** 21 to 23: "3 1 if it can be raised, else 0", "NONE .. for 2 it can't"; no order, no step. */

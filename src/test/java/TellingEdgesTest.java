@@ -10,6 +10,8 @@ public final class TellingEdgesTest {
     private static final String[] KEYWORDS = {"four", "add", "less", "both", "turn", "slack", "into", "ahead", "hold",
         "level", "margin", "sap", "to", "stock", "post", "beam", "rafter", "brace"};
     private static final String FIRST_WORDS = " four turn slack hold level margin sap stock post beam rafter brace ";
+    private static final String[] LINES = {"four add ;", "four less ;", "four both ;", "turn ;", "slack N ;",
+        "K into K ;", "K ahead K ;", "hold N ;", "level N ;", "margin N ;", "sap N to N ;", "stock N ;"};
     private static final Due DUE = new Due("TellingEdgesTest");
 
     private TellingEdgesTest() {
@@ -37,6 +39,7 @@ public final class TellingEdgesTest {
         sideBehind();
         twoHundredMarks();
         noMark();
+        markOfAnyThatCame();
         emptyTape();
         fortyLines();
         limitsOfNumbers();
@@ -44,10 +47,12 @@ public final class TellingEdgesTest {
         digitsOfNumbers();
         blanks();
         wholeKeywords();
+        whatCanStand();
         faultAtTheEnd();
         firstFault();
         faultsKept();
         laterLines();
+        newLinesAlone();
         noSuchCustom();
         DUE.end();
     }
@@ -531,6 +536,22 @@ public final class TellingEdgesTest {
         DUE.is("14: side stays", x.at(0, 5), 1);
     }
 
+    /** 8: "The TAPE, empty then, is the MARK of JOINT j (any that came)", whatever THE VIEW. */
+    private static void markOfAnyThatCame() {
+        FrameReader x = withJoint();
+        x.days(1);
+        x.joint(0, 0, 1, 1);
+        x.view(0);
+        DUE.is("8: of 0, which the view has", Feeder.mark(x, 0, "V"), 1);
+        DUE.is("8: of 1, which it has not", Feeder.mark(x, 1, "XX"), 2);
+        DUE.is("8: of 2, which never came", Feeder.mark(x, 2, "XXX"), NONE);
+        DUE.is("14: of 0 on 0", x.at(0, 4), 0);
+        DUE.is("14: of 1 on 0", x.at(1, 4), NONE);
+        x.view(1);
+        DUE.is("14: of 0 on 1", x.at(0, 4), 1);
+        DUE.is("14: of 1 on 1", x.at(1, 4), 2);
+    }
+
     /** 8, 9: the empty TAPE is a MARK without a sign, and a CUSTOM without a line. */
     private static void emptyTape() {
         FrameReader x = withJoint();
@@ -686,6 +707,72 @@ public final class TellingEdgesTest {
         }
     }
 
+    /** 9, 10, Terms: "1 what can't stand there": in each place of each line each KEYWORD, and what is near to one. */
+    private static void whatCanStand() {
+        for (String line : LINES) {
+            String[] tokens = line.replace("K", "rafter").replace("N", "2").split(" ");
+            for (int i = 0; i < tokens.length; i++) {
+                String right = tokens[i];
+                for (String word : KEYWORDS) {
+                    tokens[i] = word;
+                    dueLine(tokens);
+                }
+                for (String other : new String[] {";", "2", "02", "002", "#", "'", "a", "zzzzzzz", "four2", "post;"}) {
+                    tokens[i] = other;
+                    dueLine(tokens);
+                }
+                for (int k = 0; k < right.length() && right.length() > 1; k++) {
+                    tokens[i] = right.substring(0, k) + 'q' + right.substring(k + 1);
+                    dueLine(tokens);
+                    tokens[i] = right.substring(0, k) + 'q' + right.substring(k);
+                    dueLine(tokens);
+                    tokens[i] = right.substring(0, k) + ' ' + right.substring(k);
+                    dueLine(tokens);
+                }
+                tokens[i] = right;
+            }
+            dueLine(tokens);
+        }
+    }
+
+    /** Goes by the first token of them that no line has behind the ones ahead of it. */
+    private static void dueLine(String[] tokens) {
+        String text = String.join(" ", tokens);
+        int wrong = firstWrong(text);
+        FrameReader x = new FrameReader();
+        DUE.is("9: " + text, Feeder.custom(x, 0, text), wrong == NONE ? linesOf(text) : NONE);
+        DUE.is("10: fault of " + text, x.fault(0), wrong == NONE ? 0 : 1);
+        DUE.is("10: place of " + text, x.fault(1), wrong);
+    }
+
+    private static int linesOf(String text) {
+        return (int) text.chars().filter(b -> b == ';').count();
+    }
+
+    /** The place of the first token that can't stand, NONE without one; for NUMBERS that are no fault themselves. */
+    private static int firstWrong(String text) {
+        java.util.regex.Matcher token = java.util.regex.Pattern.compile("[a-z]+|[0-9]+|[^ ]").matcher(text);
+        String line = "";
+        while (token.find()) {
+            String next = token.group();
+            if (next.matches("post|beam|rafter|brace")) {
+                next = "K";
+            } else if (next.matches("[0-9]{1,2}")) {
+                next = "N";
+            }
+            line = line + next + " ";
+            boolean begins = false;
+            for (String known : LINES) {
+                begins |= (known + " ").startsWith(line);
+            }
+            if (!begins) {
+                return token.start();
+            }
+            line = next.equals(";") ? "" : line;
+        }
+        return line.isEmpty() ? NONE : text.length();
+    }
+
     /** 9, 10, Terms: "(the end: the text's length)". */
     private static void faultAtTheEnd() {
         String[] begun = {"turn", "four", "four add", "slack", "slack 3", "post", "post into", "post into beam",
@@ -768,6 +855,28 @@ public final class TellingEdgesTest {
         DUE.is("12: both, so none", x.customs(0, 31), 0);
         DUE.is("12: both, so none", x.customs(0, 34), 0);
         DUE.is("12: the one alone", x.customs(0, 32), 1);
+    }
+
+    /** 9, Terms: "by a new CUSTOM ahead of its lines": nothing of what was told ahead of it. */
+    private static void newLinesAlone() {
+        String all = "four add;turn;slack 3;post into beam;post ahead beam;hold 5;level 9;margin 9;sap 9 to 9;stock 9;";
+        FrameReader x = new FrameReader();
+        for (int i = 0; i < 3; i++) {
+            DUE.is("9: all", Feeder.custom(x, 0, all), 10);
+            DUE.is("9: nothing", Feeder.custom(x, 0, " "), 0);
+            DUE.is("12: no turn", x.customs(0, 1), 0);
+            DUE.is("9: begun with all", Feeder.custom(x, 0, all + "hold 6;"), NONE);
+            DUE.is("9: one line", Feeder.custom(x, 0, "stock 3;"), 1);
+            int[] want = {3, 0, 1, 2, 60, 1, 10, 30, 3};
+            for (int what = 0; what < want.length; what++) {
+                DUE.is("12: stock alone, what " + what, x.customs(0, what), want[what]);
+            }
+            DUE.is("12: not into", x.customs(0, 11), 0);
+            DUE.is("12: not ahead", x.customs(0, 31), 0);
+            DUE.is("9: nothing", x.custom(0), 0);
+        }
+        dueFirstCustom("9: nothing", x, 0);
+        dueFirstCustom("9: the other", x, 1);
     }
 
     /** 9: "NONE: none such, or a FAULT (the CUSTOM stays; the TAPE is empty then, too)". */

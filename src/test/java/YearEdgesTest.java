@@ -467,6 +467,7 @@ public final class YearEdgesTest {
         dueBuilt("28: three against one", house("stock 0;", 106, 104, 106, 106), 106, 106, 1, 4);
         dueBuilt("28: all apart", house("stock 0;", 104, 106, 108, 110), 104, 104, 3, 4);
         FrameReader x = house("stock 3;", 104, 105);
+        dueBuilt("28: two", x, 105, 107, 0, 2);
         x.master(104, -1);
         x.master(109, -1);
         x.master(112, -1);
@@ -610,6 +611,15 @@ public final class YearEdgesTest {
             DUE.is("30: told the other way, " + call, y.leans(0, 4), r[5]);
         }
         FrameReader x = leaning(0, 0, 10, 20);
+        x.timber(0, 9);
+        x.lean(1, 5, 10);
+        x.lean(1, 6, 7);
+        for (int i = 0; i < 2; i++) {
+            DUE.is("30: above, of 0", x.leans(0, 3), 2);
+            DUE.is("30: above, of 1", x.leans(1, 3), -3);
+            DUE.is("31: of 0", x.falls(0, 20), 11);
+            DUE.is("31: of 1", x.falls(1, 7), 11);
+        }
         x.lean(0, 5, 99);
         DUE.is("30: one between counts for nothing", x.leans(0, 3), 2);
         DUE.is("30: below", x.leans(0, 4), 1);
@@ -640,6 +650,10 @@ public final class YearEdgesTest {
             {1001, NONE}, {-1, NONE}, {-2, NONE}, {BIG, NONE}, {SMALL, NONE}};
         for (int[] r : rows) {
             DUE.is("31: right, beyond " + r[0], x.falls(0, r[0]), r[1]);
+        }
+        FrameReader later = leaning(110, 20, 100, 10);
+        for (int[] r : rows) {
+            DUE.is("31: the last year told first, beyond " + r[0], later.falls(0, r[0]), r[1]);
         }
         FrameReader y = leaning(100, -10, 110, -20);
         for (int[] r : rows) {
