@@ -214,10 +214,14 @@ public final class FrameReader {
     }
 
     public int forced(int c, int j) {
-        if (mate(c, j) == NONE) {
+        if (!isCustom(c) || !isJoint(j)) {
             return NONE;
         }
-        return isCustom(c) && joins[c].isForced(j) ? 1 : 0;
+        refresh();
+        if (joins[c].partnerOf(j) == NONE) {
+            return NONE;
+        }
+        return joins[c].isForced(j) ? 1 : 0;
     }
 
     public int frameOf(int c, int t) {
@@ -1179,14 +1183,14 @@ public final class FrameReader {
 
         /** A pair is in all joins as good, unless a round of no cost does without it. */
         void findForced() {
-            for (int i = 0; i < arcs; i++) {
+            for (int i = 0; i < arcs && i < MOST_ARCS; i++) {
                 int t = arcTenon[i];
                 int h = arcHole[i];
-                if (partner[t] == h) {
+                if (partnerOf(t) == h) {
                     pairs++;
                     more += arcMore[i];
                     measureTo(h);
-                    if (distance[t] != arcMore[i]) {
+                    if (pick(distance, t) != arcMore[i]) {
                         forcedSet |= 1L << t | 1L << h;
                     }
                 }
@@ -1214,15 +1218,15 @@ public final class FrameReader {
         }
 
         private void chooseFirstHole(int t) {
-            for (int i = 0; i < arcs; i++) {
+            for (int i = 0; i < arcs && i < MOST_ARCS; i++) {
                 int h = arcHole[i];
                 if (arcTenon[i] != t) {
                     continue;
                 }
-                if (partner[t] == h) {
+                if (partnerOf(t) == h) {
                     break;
                 }
-                if (distance[h] + arcMore[i] == 0) {
+                if (pick(distance, h) == -arcMore[i]) {
                     turnOver(h, t);
                     tie(t, h);
                     break;
@@ -1235,7 +1239,9 @@ public final class FrameReader {
         private void measureTo(int target) {
             Arrays.fill(distance, FAR);
             Arrays.fill(next, NONE);
-            distance[target] = 0;
+            if (target >= 0 && target < NODES) {
+                distance[target] = 0;
+            }
             boolean moved = true;
             for (int round = 0; round < NODES && moved; round++) {
                 moved = relaxArcs();
@@ -1245,13 +1251,13 @@ public final class FrameReader {
 
         private boolean relaxArcs() {
             boolean moved = false;
-            for (int i = 0; i < arcs; i++) {
+            for (int i = 0; i < arcs && i < MOST_ARCS; i++) {
                 int t = arcTenon[i];
                 int h = arcHole[i];
                 if (has(closed, t)) {
                     continue;
                 }
-                if (partner[t] == h) {
+                if (partnerOf(t) == h) {
                     moved = relax(h, t, -arcMore[i]) || moved;
                 } else {
                     moved = relax(t, h, arcMore[i]) || moved;
@@ -1277,6 +1283,9 @@ public final class FrameReader {
         }
 
         private boolean relax(int from, int to, int cost) {
+            if (from < 0 || from >= NODES || to < 0 || to >= NODES) {
+                return false;
+            }
             if (distance[to] == FAR || distance[to] + cost >= distance[from]) {
                 return false;
             }
@@ -1288,8 +1297,8 @@ public final class FrameReader {
         /** Old pairs on the way go first, since their joints may be in new ones. */
         private void turnOver(int from, int target) {
             int u = from;
-            for (int i = 0; i < NODES && u != target && u != NONE; i++) {
-                int v = next[u];
+            for (int i = 0; i < NODES && u != target; i++) {
+                int v = pick(next, u);
                 if (has(holes, u) && has(tenons, v)) {
                     partner[u] = NONE;
                     partner[v] = NONE;
@@ -1297,8 +1306,8 @@ public final class FrameReader {
                 u = v;
             }
             u = from;
-            for (int i = 0; i < NODES && u != target && u != NONE; i++) {
-                int v = next[u];
+            for (int i = 0; i < NODES && u != target; i++) {
+                int v = pick(next, u);
                 if (has(tenons, u) && has(holes, v)) {
                     tie(u, v);
                 }
@@ -1307,8 +1316,10 @@ public final class FrameReader {
         }
 
         private void tie(int t, int h) {
-            partner[t] = h;
-            partner[h] = t;
+            if (t >= 0 && t < JOINTS && h >= 0 && h < JOINTS) {
+                partner[t] = h;
+                partner[h] = t;
+            }
         }
 
         private static boolean has(long set, int j) {
@@ -1473,7 +1484,7 @@ public final class FrameReader {
 
         private void take(Frames frames, int f) {
             size = 0;
-            for (int t = 0; t < TIMBERS; t++) {
+            for (int t = 0; t < TIMBERS && size < TIMBERS; t++) {
                 if (frames.holding(t) == f) {
                     timber[size] = t;
                     size++;
