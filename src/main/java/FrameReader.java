@@ -772,22 +772,34 @@ public final class FrameReader {
 
         private void split(Tape tape) {
             count = 0;
-            int next;
-            for (int start = 0; start < tape.size(); start = next) {
-                next = start + 1;
-                int b = tape.byteAt(start);
-                if (isLetter(b)) {
-                    next = endOfLetters(tape, start);
-                    int word = wordNumber(tape, start, next);
-                    keep(word == NONE ? WRONG : WORD, word, start);
-                } else if (isDigit(b)) {
-                    next = endOfDigits(tape, start);
-                    keep(next - start > 2 ? WRONG : NUMBER, numberAt(tape, start, next), start);
-                } else if (!isBlank(b)) {
-                    keep(b == ';' ? STOP : WRONG, NONE, start);
+            for (int i = 0; i < tape.size(); i++) {
+                if (beginsToken(tape, i)) {
+                    keepToken(tape, i);
                 }
             }
             keep(END, NONE, tape.size());
+        }
+
+        private static boolean beginsToken(Tape tape, int i) {
+            int b = tape.byteAt(i);
+            int ahead = tape.byteAt(i - 1);
+            if (isLetter(b)) {
+                return !isLetter(ahead);
+            }
+            return isDigit(b) ? !isDigit(ahead) : !isBlank(b);
+        }
+
+        private void keepToken(Tape tape, int start) {
+            int b = tape.byteAt(start);
+            if (isLetter(b)) {
+                int word = wordNumber(tape, start, endOfLetters(tape, start));
+                keep(word == NONE ? WRONG : WORD, word, start);
+            } else if (isDigit(b)) {
+                int next = endOfDigits(tape, start);
+                keep(next - start > 2 ? WRONG : NUMBER, numberAt(tape, start, next), start);
+            } else {
+                keep(b == ';' ? STOP : WRONG, NONE, start);
+            }
         }
 
         private void keep(int token, int value, int start) {
@@ -1257,7 +1269,7 @@ public final class FrameReader {
                 if (has(closed, t)) {
                     continue;
                 }
-                if (partnerOf(t) == h) {
+                if (pick(partner, t) == h) {
                     moved = relax(h, t, -arcMore[i]) || moved;
                 } else {
                     moved = relax(t, h, arcMore[i]) || moved;
@@ -1460,6 +1472,8 @@ public final class FrameReader {
         private final int[] timber = new int[TIMBERS];
         private final int[] mates = new int[TIMBERS];
         private final int[] before = new int[TIMBERS];
+        /** A TIMBER can come to a set that has of these only those BEFORE it: all of them, not itself. */
+        private final int[] gate = new int[TIMBERS];
         private final int[] need = new int[TIMBERS];
         /** In how many orders a set can come to stand. */
         private long[] ways = new long[1];
@@ -1504,6 +1518,7 @@ public final class FrameReader {
                         }
                     }
                 }
+                gate[i] = before[i] | 1 << i;
                 need[i] = Math.min(custom.hold, Integer.bitCount(mates[i]));
             }
         }
@@ -1527,15 +1542,11 @@ public final class FrameReader {
                     continue;
                 }
                 for (int i = 0; i < size; i++) {
-                    if (canCome(i, set)) {
+                    if ((set & gate[i]) == before[i]) {
                         ways[set | 1 << i] += ways[set];
                     }
                 }
             }
-        }
-
-        private boolean canCome(int i, int set) {
-            return (set >> i & 1) == 0 && (before[i] & ~set) == 0;
         }
 
         private void measureWorst() {
@@ -1547,8 +1558,8 @@ public final class FrameReader {
                 }
                 int least = TIMBERS;
                 for (int i = 0; i < size; i++) {
-                    if (canCome(i, set)) {
-                        least = Math.min(least, worst[set | 1 << i]);
+                    if ((set & gate[i]) == before[i] && worst[set | 1 << i] < least) {
+                        least = worst[set | 1 << i];
                     }
                 }
                 worst[set] = (byte) Math.max(least, props(set));
@@ -1569,7 +1580,7 @@ public final class FrameReader {
             int set = 0;
             for (int step = 0; step < size; step++) {
                 for (int i = 0; i < size; i++) {
-                    if (canCome(i, set) && worst[set | 1 << i] <= worst[0]) {
+                    if ((set & gate[i]) == before[i] && worst[set | 1 << i] <= worst[0]) {
                         frames.keepStep(f, step, timber[i]);
                         set |= 1 << i;
                         break;
